@@ -208,6 +208,8 @@ public final class PromiseTests {
         due("count(8)", x.count(8), 10);
         due("undo()", x.undo(), 4);
         due("count(9)", x.count(9), 3);
+        x.cast(0, 27, 99);
+        due("melt(0, 27, 99)", x.melt(0, 27, 99), 958);
         x = withCases(1, 99999);
         due("cast(0, 0, 50)", x.cast(0, 0, 50), 50);
         due("buy(101)", x.buy(101), 100000);
@@ -215,10 +217,10 @@ public final class PromiseTests {
         due("buy(1)", x.buy(1), FULL);
     }
 
-    /** Brings n pieces of the letter e, times eight, to the box: forme after forme of 16 is printed and distributed. */
+    /** Brings 2 pieces of the letter d to the box by each forme of 16 that is printed and distributed. */
     private static void wear(TypeWorkshop x, int formes) {
         for (int i = 0; i < formes; i++) {
-            int job = order(x, "eeeeeeeeeeeeeeee", 0, 96, 0);
+            int job = order(x, "dddddddddddddddd", 0, 80, 0);
             due("set", x.set(job), 0);
             due("print", x.print(job), 0);
             due("distribute", x.distribute(job), 2);
@@ -229,27 +231,36 @@ public final class PromiseTests {
         TypeWorkshop x = withCases(1, 1000);
         due("meltBox()", x.meltBox(), NONE);
         due("count(14)", x.count(14), 2);
-        x.cast(0, 4, 40);
+        x.cast(0, 3, 40);
         wear(x, 4);
-        due("pieces(-1, 4)", x.pieces(-1, 4), 8);
-        due("count(5)", x.count(5), 48);
-        due("meltBox(), no dross below 50", x.meltBox(), 48);
+        due("pieces(-1, 3)", x.pieces(-1, 3), 8);
+        due("count(5)", x.count(5), 40);
+        due("meltBox(), no dross below 50", x.meltBox(), 40);
         due("count(7)", x.count(7), 0);
+        due("count(14)", x.count(14), 5);
         due("undo()", x.undo(), 4);
+        wear(x, 1);
+        due("meltBox(), dross of 50", x.meltBox(), 49);
+        due("count(7)", x.count(7), 1);
+        due("count(2)", x.count(2), 849);
         wear(x, 5);
-        due("count(10)", x.count(10), 18);
-        due("count(5)", x.count(5), 108);
-        due("count(2)", x.count(2), 760);
-        due("meltBox()", x.meltBox(), 106);
-        due("count(2)", x.count(2), 866);
+        due("count(10)", x.count(10), 10);
+        due("count(5)", x.count(5), 50);
+        due("meltBox()", x.meltBox(), 49);
+        due("count(2)", x.count(2), 898);
         due("count(5)", x.count(5), 0);
         due("count(10)", x.count(10), 0);
         due("count(7)", x.count(7), 2);
-        due("count(9)", x.count(9), 18);
+        due("count(9)", x.count(9), 20);
         due("meltBox()", x.meltBox(), NONE);
         due("undo()", x.undo(), 4);
-        due("pieces(-1, 4)", x.pieces(-1, 4), 18);
-        due("count(7)", x.count(7), 0);
+        due("pieces(-1, 3)", x.pieces(-1, 3), 10);
+        due("count(7)", x.count(7), 1);
+        x = withCases(1, 1000);
+        x.cast(0, 3, 40);
+        wear(x, 11);
+        due("count(5)", x.count(5), 110);
+        due("meltBox(), dross of 110", x.meltBox(), 108);
     }
 
     private static void type() {
@@ -340,6 +351,10 @@ public final class PromiseTests {
         due("undo()", x.undo(), 4);
         due("count(1)", x.count(1), 11);
         due("text of a job is its own", x.job(10, 5), 3);
+        x.undo();
+        write(x, "abc/de");
+        due("what was typed ahead of clearText() is gone", order(x, "abc", 0, 12, 0), 10);
+        due("lines", x.job(10, 4), 1);
     }
 
     private static void set() {
@@ -440,6 +455,9 @@ public final class PromiseTests {
             due("set", x.set(job), 0);
         }
         x.pass(20);
+        due("late", x.print(0), 20);
+        due("an act", x.undo(), 4);
+        due("state", x.job(0, 3), 1);
         due("late", x.print(0), 20);
         due("late", x.print(1), 10);
         due("on its day", x.print(2), 0);
