@@ -1,41 +1,5 @@
 /** For each promise of the document: ordinary inputs, the edges that it names, and wrong inputs. */
-public final class PromiseTests {
-    private static final int UNKNOWN = TypeWorkshop.UNKNOWN;
-    private static final int BAD_VALUE = TypeWorkshop.BAD_VALUE;
-    private static final int FULL = TypeWorkshop.FULL;
-    private static final int NOT_POSSIBLE = TypeWorkshop.NOT_POSSIBLE;
-    private static final int NONE = TypeWorkshop.NONE;
-    private static final int MIN = Integer.MIN_VALUE;
-    private static final int MAX = Integer.MAX_VALUE;
-    private static final int[] WRONG_BOTH_ENDS = {MIN, -2, -1, MAX};
-
-    private static void due(String call, long got, long want) {
-        Check.due(call, got, want);
-    }
-
-    private static void write(TypeWorkshop x, String text) {
-        x.clearText();
-        for (char sign : text.toCharArray()) {
-            x.type(sign);
-        }
-    }
-
-    private static int order(TypeWorkshop x, String text, int box, int measure, int due) {
-        write(x, text);
-        return x.order(box, measure, due);
-    }
-
-    private static TypeWorkshop withCases(int cases, int metal) {
-        TypeWorkshop x = new TypeWorkshop();
-        for (int i = 0; i < cases; i++) {
-            x.addCase();
-        }
-        for (int left = metal; left > 0; left -= 20000) {
-            x.buy(Math.min(left, 20000));
-        }
-        return x;
-    }
-
+public final class PromiseTests extends Bench {
     /** Whether a call that answers an error or NONE leaves everything that count() tells as it was. */
     private static long[] counts(TypeWorkshop x) {
         long[] told = new long[16];
@@ -50,19 +14,6 @@ public final class PromiseTests {
         for (int what = 0; what < after.length; what++) {
             due("count(" + what + ") after what changes nothing", after[what], before[what]);
         }
-    }
-
-    private static String line(TypeWorkshop x, int job, int line) {
-        StringBuilder told = new StringBuilder();
-        for (int i = 0; i < 200 && x.pieceAt(job, line, i) >= 0; i++) {
-            told.append((char) x.pieceAt(job, line, i));
-        }
-        return told.toString();
-    }
-
-    private static void lineIs(TypeWorkshop x, int job, int line, String want) {
-        String got = line(x, job, line);
-        Check.holds("line " + line + " of job " + job + " is " + got + ", due is " + want, got.equals(want));
     }
 
     private static void newObject() {
@@ -344,7 +295,7 @@ public final class PromiseTests {
             due("order", order(x, "abc", 0, 12, job), job);
         }
         due("one too many", x.order(0, 12, 0), FULL);
-        due("too wide before full", x.order(0, 10, 0), 12 - 12 + FULL);
+        due("one that fits", x.order(0, 10, 0), FULL);
         due("too wide before full", order(x, "aaaaaa", 0, 10, 0), NOT_POSSIBLE);
         due("fault before full", order(x, "aaaaaa ", 0, 10, 0), -107);
         due("count(1)", x.count(1), 12);
@@ -941,15 +892,6 @@ public final class PromiseTests {
         due("FULL", FULL, -3);
         due("NOT_POSSIBLE", NOT_POSSIBLE, -4);
         due("NONE", NONE, -5);
-    }
-
-    private interface Part {
-        void run();
-    }
-
-    private static void part(String name, Part part) {
-        Check.part(name);
-        part.run();
     }
 
     public static void main(String[] args) {
