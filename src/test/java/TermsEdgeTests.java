@@ -1,3 +1,5 @@
+import java.util.Arrays;
+
 /** For each sentence under "Terms" that names a boundary case a test of its own, which bears the sentence as its name. */
 public final class TermsEdgeTests extends Bench {
     private static final int[] WIDTHS = {2, 3, 4, 5, 6, 2, 3, 4, 5, 6, 2, 3, 4, 5, 6, 2, 3, 4, 5, 6, 2, 3, 4, 5, 6, 2, 4, 2, 1};
@@ -357,11 +359,11 @@ public final class TermsEdgeTests extends Bench {
         gapsAre("a a", 150, 146);
         gapsAre("a", 149, 147);
         int[] ones = new int[29];
-        java.util.Arrays.fill(ones, 1);
+        Arrays.fill(ones, 1);
         gapsAre("a" + times(" a", 29), 89, ones);
         ones[0] = 2;
         gapsAre("a" + times(" a", 29), 90, ones);
-        java.util.Arrays.fill(ones, 2);
+        Arrays.fill(ones, 2);
         ones[28] = 1;
         gapsAre("a" + times(" a", 29), 60 + 57, ones);
         TypeWorkshop x = withCases(1, 0);
@@ -765,6 +767,32 @@ public final class TermsEdgeTests extends Bench {
         due("nor is the history: 3 states and the one that restore() records", x.count(14), 3 + 1);
     }
 
+    private static void stateIsAllThatIsCounted() {
+        TypeWorkshop x = new TypeWorkshop();
+        String first = state(x);
+        x.keep();
+        x.buy(2000);
+        x.addCase();
+        x.cast(0, 25, 8);
+        bringToBox(x, ONE_WIDE, 50);
+        x.meltBox();
+        bringToBox(x, ONE_WIDE, 8);
+        x.pass(1);
+        x.cast(0, 0, 30);
+        for (int i = 0; i < 2; i++) {
+            due("set", x.set(order(x, "aaaaa", 0, 10, 0)), 0);
+        }
+        x.print(2);
+        for (int what = 0; what <= 13; what++) {
+            Check.holds("count(" + what + ") is above 0", x.count(what) > 0);
+        }
+        String then = state(x);
+        x.restore();
+        sameText("restore() brings all of it back", state(x), first);
+        x.undo();
+        sameText("undo() brings all of it back", state(x), then);
+    }
+
     private static void constants() {
         due("UNKNOWN", TypeWorkshop.UNKNOWN, -1);
         due("BAD_VALUE", TypeWorkshop.BAD_VALUE, -2);
@@ -866,6 +894,7 @@ public final class TermsEdgeTests extends Bench {
         part("There is one snapshot, empty at first.", TermsEdgeTests::snapshotAlone);
         part("A state is everything but the text buffer (the jobs keep their texts), the history and the snapshot.",
             TermsEdgeTests::stateIsAllButText);
+        part("A state is everything", TermsEdgeTests::stateIsAllThatIsCounted);
         part("The constants", TermsEdgeTests::constants);
         part("An object is used for at most 512 calls after it has been made", TermsEdgeTests::calls512);
     }
