@@ -1,3 +1,6 @@
+import java.util.function.Supplier;
+import java.util.function.ToIntFunction;
+
 /** What the tests have in common: workshops that are made ready, texts, and everything that a workshop tells. */
 abstract class Bench {
     static final int UNKNOWN = TypeWorkshop.UNKNOWN;
@@ -50,8 +53,10 @@ abstract class Bench {
 
     static String line(TypeWorkshop x, int job, int line) {
         StringBuilder told = new StringBuilder();
-        for (int i = 0; i < 200 && x.pieceAt(job, line, i) >= 0; i++) {
-            told.append((char) x.pieceAt(job, line, i));
+        int sign = x.pieceAt(job, line, 0);
+        for (int i = 1; i <= 200 && sign >= 0; i++) {
+            told.append((char) sign);
+            sign = x.pieceAt(job, line, i);
         }
         return told.toString();
     }
@@ -61,39 +66,82 @@ abstract class Bench {
         Check.holds("line " + line + " of job " + job + " is " + got + ", due is " + want, got.equals(want));
     }
 
+    /** What is made, with one call more. */
+    static Supplier<TypeWorkshop> then(Supplier<TypeWorkshop> made, ToIntFunction<TypeWorkshop> call) {
+        return () -> {
+            TypeWorkshop x = made.get();
+            call.applyAsInt(x);
+            return x;
+        };
+    }
+
+    /**
+     * Asks of a workshop that can be made again. An object promises no more than 512 answers, so after some questions
+     * the next one is made; what makes it has the other calls.
+     */
+    private static final class Asked {
+        private static final int QUESTIONS = 200;
+        private final Supplier<TypeWorkshop> made;
+        private TypeWorkshop x;
+        private int questions = 0;
+
+        Asked(Supplier<TypeWorkshop> made) {
+            this.made = made;
+        }
+
+        TypeWorkshop next() {
+            if (questions % QUESTIONS == 0) {
+                x = made.get();
+            }
+            questions++;
+            return x;
+        }
+    }
+
     /** Everything that a workshop tells of its state, so without the history and the text. */
-    static String state(TypeWorkshop x) {
+    static String state(Supplier<TypeWorkshop> made) {
+        Asked asked = new Asked(made);
         StringBuilder told = new StringBuilder();
         for (int what = 0; what <= 13; what++) {
-            told.append(" count ").append(what).append(' ').append(x.count(what));
+            told.append(" count ").append(what).append(' ').append(asked.next().count(what));
         }
-        told.append(" urgent ").append(x.urgent());
-        for (int box = -1; box < x.count(0); box++) {
+        told.append(" urgent ").append(asked.next().urgent());
+        int cases = asked.next().count(0);
+        for (int box = -1; box < cases; box++) {
             for (int sort = 0; sort < 29; sort++) {
-                told.append(" pieces ").append(box).append(' ').append(sort).append(' ').append(x.pieces(box, sort));
+                told.append(" pieces ").append(box).append(' ').append(sort).append(' ').append(asked.next().pieces(box, sort));
             }
         }
-        for (int job = 0; job < x.count(1); job++) {
-            tellJob(x, job, told);
+        int jobs = asked.next().count(1);
+        for (int job = 0; job < jobs; job++) {
+            tellJob(asked, job, cases, told);
         }
         return told.toString();
     }
 
-    private static void tellJob(TypeWorkshop x, int job, StringBuilder told) {
+    private static void tellJob(Asked asked, int job, int cases, StringBuilder told) {
         told.append(" job ").append(job);
         for (int what = 0; what <= 10; what++) {
-            told.append(' ').append(x.job(job, what));
+            told.append(' ').append(asked.next().job(job, what));
         }
         for (int sort = 0; sort < 29; sort++) {
-            told.append(" need ").append(x.need(job, sort)).append(' ').append(x.missing(job, sort));
-            for (int box = 0; box < x.count(0); box++) {
-                told.append(' ').append(x.taken(job, box, sort));
+            told.append(" need ").append(asked.next().need(job, sort)).append(' ').append(asked.next().missing(job, sort));
+            for (int box = 0; box < cases; box++) {
+                told.append(' ').append(asked.next().taken(job, box, sort));
             }
         }
-        for (int line = 0; line < x.job(job, 4); line++) {
-            told.append(" line ").append(line(x, job, line));
-            for (int gap = 0; x.gap(job, line, gap) >= 0; gap++) {
-                told.append(' ').append(x.gap(job, line, gap));
+        int lines = asked.next().job(job, 4);
+        for (int line = 0; line < lines; line++) {
+            told.append(" line ");
+            int sign = asked.next().pieceAt(job, line, 0);
+            for (int i = 1; i <= 200 && sign >= 0; i++) {
+                told.append((char) sign);
+                sign = asked.next().pieceAt(job, line, i);
+            }
+            int width = asked.next().gap(job, line, 0);
+            for (int gap = 1; gap <= 60 && width >= 0; gap++) {
+                told.append(' ').append(width);
+                width = asked.next().gap(job, line, gap);
             }
         }
     }

@@ -1,12 +1,13 @@
 import java.util.Random;
 
 /**
- * Long runs of calls, the same at every start, on a workshop and on the model of the document: each call must answer
- * the same in both, and now and then everything that can be told is compared.
+ * Runs of as many calls as an object promises, the same at every start, on a workshop and on the model of the document:
+ * each call must answer the same in both. A run is made of acts, and then asks what can be told of the state.
  */
 public final class ModelTests {
-    private static final int RUNS = 400;
+    private static final int RUNS = 6000;
     private static final int CALLS = 512;
+    private static final String[] SHORT_TEXTS = {"a", "e e", "ab", "aa/e a", "zzzz", "a b c", "eeeeeeee", "f/f"};
     private static final String[] TEXTS = {"a", "e e", "the cat/sat on", "aaaa eeee/a/b", "a b c d e f g", "zz/zz/zz zz zz",
         "eeeeeeeeeeeeeeee", "a/a/a/a/a", "uxux uxux/ux ux", "abc def ghi/jkl mno pqr/stu vwx yz", "eeeeeeeeeeeeeeeeeeeeeeee",
         "ffffffffffffffffffffffffffffff/ffffffffff ffffffffff ffffff"};
@@ -14,10 +15,17 @@ public final class ModelTests {
     private final Random random;
     private final TypeWorkshop real = new TypeWorkshop();
     private final Model model = new Model();
+    /** Some runs use short texts alone, so that more of their calls are acts. */
+    private final String[] texts;
     private int calls = 0;
 
     private ModelTests(int run) {
         random = new Random(run);
+        texts = run % 3 == 0 ? TEXTS : SHORT_TEXTS;
+    }
+
+    private boolean mayAsk() {
+        return calls < CALLS;
     }
 
     private void same(String call, long got, long want) {
@@ -54,8 +62,15 @@ public final class ModelTests {
         return near(0, 28);
     }
 
+    /** Mostly one of those that the texts and their gaps need. */
+    private int usedSort() {
+        int[] used = {0, 1, 4, 5, 25, 26, 27, 28};
+        return oneIn(3) ? anySort() : used[below(used.length)];
+    }
+
     private void typeText(String text) {
-        for (char sign : text.toCharArray()) {
+        for (int i = 0; i < text.length() && mayAsk(); i++) {
+            char sign = text.charAt(i);
             same("type(" + (int) sign + ")", real.type(sign), model.type(sign));
         }
     }
@@ -63,11 +78,11 @@ public final class ModelTests {
     private void type() {
         if (oneIn(2)) {
             same("clearText()", real.clearText(), model.clearText());
-            typeText(TEXTS[below(TEXTS.length)]);
+            typeText(texts[below(texts.length)]);
             return;
         }
         String signs = oneIn(4) ? "ab /" + (char) ('`' + below(28)) + (char) below(65536) : "abefuz";
-        for (int i = below(20); i > 0; i--) {
+        for (int i = below(oneIn(2) ? 20 : 3); i > 0; i--) {
             typeText("" + signs.charAt(below(signs.length())));
         }
     }
@@ -81,7 +96,7 @@ public final class ModelTests {
 
     private void cast() {
         int box = anyCase();
-        int sort = anySort();
+        int sort = usedSort();
         int count = near(1, 99);
         same("cast(" + box + ", " + sort + ", " + count + ")", real.cast(box, sort, count), model.cast(box, sort, count));
     }
@@ -163,72 +178,71 @@ public final class ModelTests {
 
     private void askOne() {
         int job = anyJob();
-        int box = near(-1, 5);
-        int sort = anySort();
-        int line = near(0, 3);
-        int at = near(0, 20);
-        int what = near(0, 15);
-        same("pieces(" + box + ", " + sort + ")", real.pieces(box, sort), model.pieces(box, sort));
+        int box = oneIn(4) ? near(-1, 5) : anyCase();
+        int sort = usedSort();
+        switch (below(10)) {
+            case 0 -> askCount(near(0, 15));
+            case 1 -> same("urgent()", real.urgent(), model.urgent());
+            case 2 -> same("pieces(" + box + ", " + sort + ")", real.pieces(box, sort), model.pieces(box, sort));
+            case 3 -> askJob(job, near(0, 10));
+            case 4 -> same("need(" + job + ", " + sort + ")", real.need(job, sort), model.need(job, sort));
+            case 5 -> same("missing(" + job + ", " + sort + ")", real.missing(job, sort), model.missing(job, sort));
+            case 6 -> same("taken(" + job + ", " + box + ", " + sort + ")", real.taken(job, box, sort),
+                model.taken(job, box, sort));
+            case 7 -> askGap(job);
+            default -> askPiece(job);
+        }
+    }
+
+    private void askCount(int what) {
+        same("count(" + what + ")", real.count(what), model.count(what));
+    }
+
+    private void askJob(int job, int what) {
         same("job(" + job + ", " + what + ")", real.job(job, what), model.job(job, what));
-        same("need(" + job + ", " + sort + ")", real.need(job, sort), model.need(job, sort));
-        same("missing(" + job + ", " + sort + ")", real.missing(job, sort), model.missing(job, sort));
-        same("taken(" + job + ", " + box + ", " + sort + ")", real.taken(job, box, sort), model.taken(job, box, sort));
-        same("gap(" + job + ", " + line + ", " + at + ")", real.gap(job, line, at), model.gap(job, line, at));
-        same("pieceAt(" + job + ", " + line + ", " + at + ")", real.pieceAt(job, line, at), model.pieceAt(job, line, at));
     }
 
-    private void askAll() {
-        for (int what = -1; what <= 16; what++) {
-            same("count(" + what + ")", real.count(what), model.count(what));
-        }
-        same("urgent()", real.urgent(), model.urgent());
-        for (int box = -2; box <= 6; box++) {
-            for (int sort = -1; sort <= 29; sort++) {
-                same("pieces(" + box + ", " + sort + ")", real.pieces(box, sort), model.pieces(box, sort));
-            }
-        }
-        for (int job = -1; job <= model.count(1); job++) {
-            askJob(job);
-        }
+    private int anyLine(int job) {
+        return near(0, Math.max(0, model.job(job, 4) - 1));
     }
 
-    private void askJob(int job) {
-        for (int what = -1; what <= 11; what++) {
-            same("job(" + job + ", " + what + ")", real.job(job, what), model.job(job, what));
+    private void askGap(int job) {
+        int line = anyLine(job);
+        int gaps = 0;
+        while (model.gap(job, line, gaps) >= 0) {
+            gaps++;
         }
-        for (int sort = -1; sort <= 29; sort++) {
-            same("need(" + job + ", " + sort + ")", real.need(job, sort), model.need(job, sort));
-            same("missing(" + job + ", " + sort + ")", real.missing(job, sort), model.missing(job, sort));
-            for (int box = -1; box <= 6; box++) {
-                same("taken(" + job + ", " + box + ", " + sort + ")", real.taken(job, box, sort), model.taken(job, box, sort));
-            }
+        int gap = near(0, gaps);
+        same("gap(" + job + ", " + line + ", " + gap + ")", real.gap(job, line, gap), model.gap(job, line, gap));
+    }
+
+    private void askPiece(int job) {
+        int line = anyLine(job);
+        int pieces = 0;
+        while (model.pieceAt(job, line, pieces) >= 0) {
+            pieces++;
         }
-        for (int line = -1; line <= Math.max(0, model.job(job, 4)); line++) {
-            int gap = -1;
-            int answer;
-            do {
-                answer = model.gap(job, line, gap);
-                same("gap(" + job + ", " + line + ", " + gap + ")", real.gap(job, line, gap), answer);
-                gap++;
-            } while (gap <= 0 || answer >= 0);
-            int index = -1;
-            do {
-                answer = model.pieceAt(job, line, index);
-                same("pieceAt(" + job + ", " + line + ", " + index + ")", real.pieceAt(job, line, index), answer);
-                index++;
-            } while (index <= 0 || answer >= 0);
-        }
+        int index = near(0, pieces);
+        same("pieceAt(" + job + ", " + line + ", " + index + ")", real.pieceAt(job, line, index),
+            model.pieceAt(job, line, index));
     }
 
     private void run() {
-        int budget = CALLS;
-        for (int i = 0; i < budget && !Check.anyWrong(); i++) {
+        int acts = 100 + below(400);
+        while (calls < acts && !Check.anyWrong()) {
             step();
-            if (i % 64 == 63) {
-                askAll();
+        }
+        for (int what = 0; what <= 15 && mayAsk(); what++) {
+            askCount(what);
+        }
+        for (int job = 0; job < model.count(1); job++) {
+            for (int what = 3; what <= 10 && mayAsk(); what++) {
+                askJob(job, what);
             }
         }
-        askAll();
+        while (mayAsk() && !Check.anyWrong()) {
+            askOne();
+        }
     }
 
     public static void main(String[] args) {

@@ -1,3 +1,4 @@
+import java.util.List;
 import java.util.function.Supplier;
 import java.util.function.ToIntFunction;
 
@@ -60,21 +61,22 @@ public final class RefusalTests extends Bench {
     /** As many cases, jobs, characters and as much metal as there can be. */
     private static TypeWorkshop full() {
         TypeWorkshop x = busy();
-        while (x.addCase() >= 0) {
-            due("cases", x.count(0), Math.min(x.count(0), 6));
+        for (int box = 2; box < 6; box++) {
+            x.addCase();
         }
         write(x, "a");
-        while (x.order(0, 10, 9999) >= 0) {
-            due("jobs", x.count(1), Math.min(x.count(1), 12));
+        for (int job = 7; job < 12; job++) {
+            x.order(0, 10, 9999);
         }
         for (int i = 0; i < 4; i++) {
             x.buy(20000);
         }
         due("buy", x.buy(100000 - x.count(2)), 100000);
         x.pass(1);
-        while (x.type('a') >= 0) {
-            due("length", x.count(15), Math.min(x.count(15), 60));
-        }
+        write(x, "a".repeat(60));
+        due("cases", x.count(0), 6);
+        due("jobs", x.count(1), 12);
+        due("length", x.count(15), 60);
         return x;
     }
 
@@ -89,32 +91,37 @@ public final class RefusalTests extends Bench {
         for (int i = 0; i < 5; i++) {
             x.pass(1);
         }
-        while (x.count(14) > 0) {
-            x.undo();
+        for (int left = 4; left >= 0; left--) {
+            due("undo", x.undo(), left);
         }
         return x;
     }
 
+    /** What is asked of both afterwards: another act, all of the history, and the snapshot. */
+    private static final List<ToIntFunction<TypeWorkshop>> AFTERWARDS = List.of(x -> x.order(0, 150, 0), TypeWorkshop::undo,
+        TypeWorkshop::undo, TypeWorkshop::undo, TypeWorkshop::undo, TypeWorkshop::undo, TypeWorkshop::undo,
+        TypeWorkshop::restore);
+
     /** A twin is made that the call is not told to; they must not differ, nor in what undo() and restore() bring back. */
     private static void refused(String call, Supplier<TypeWorkshop> made, ToIntFunction<TypeWorkshop> asked, int want) {
-        TypeWorkshop x = made.get();
-        TypeWorkshop twin = made.get();
-        due(call, asked.applyAsInt(x), want);
-        same("after " + call, x, twin);
-        due("order after " + call, x.order(0, 150, 0), twin.order(0, 150, 0));
-        same("order after " + call, x, twin);
-        for (int i = 0; i < 6; i++) {
-            due("undo() after " + call, x.undo(), twin.undo());
-            same("undo() after " + call, x, twin);
+        due(call, asked.applyAsInt(made.get()), want);
+        Supplier<TypeWorkshop> one = then(made, asked);
+        Supplier<TypeWorkshop> twin = made;
+        same("after " + call, one, twin);
+        for (int i = 0; i < AFTERWARDS.size(); i++) {
+            ToIntFunction<TypeWorkshop> further = AFTERWARDS.get(i);
+            String when = "further call " + i + " after " + call;
+            due(when, further.applyAsInt(one.get()), further.applyAsInt(twin.get()));
+            one = then(one, further);
+            twin = then(twin, further);
+            same(when, one, twin);
         }
-        due("restore() after " + call, x.restore(), twin.restore());
-        same("restore() after " + call, x, twin);
     }
 
-    private static void same(String when, TypeWorkshop x, TypeWorkshop twin) {
-        due("history " + when, x.count(14), twin.count(14));
-        due("text " + when, x.count(15), twin.count(15));
-        sameText("state " + when, state(x), state(twin));
+    private static void same(String when, Supplier<TypeWorkshop> one, Supplier<TypeWorkshop> twin) {
+        due("history " + when, one.get().count(14), twin.get().count(14));
+        due("text " + when, one.get().count(15), twin.get().count(15));
+        sameText("state " + when, state(one), state(twin));
     }
 
     private static void buyAndAddCase() {
@@ -297,19 +304,26 @@ public final class RefusalTests extends Bench {
     /** An act records the state that was before it, also when the history is full, and undo() brings it back whole. */
     private static void records(String call, ToIntFunction<TypeWorkshop> act) {
         for (int undone = 0; undone <= 2; undone += 2) {
-            TypeWorkshop x = busy();
-            for (int i = 0; i < undone; i++) {
-                x.undo();
-            }
-            int states = x.count(14);
-            String before = state(x);
-            int answer = act.applyAsInt(x);
+            int times = undone;
+            Supplier<TypeWorkshop> before = then(RefusalTests::busy, x -> undo(x, times));
+            Supplier<TypeWorkshop> after = then(before, act);
+            Supplier<TypeWorkshop> again = then(after, TypeWorkshop::undo);
+            int answer = act.applyAsInt(before.get());
             Check.holds(call + " answers " + answer + ", which is an error or NONE", answer >= 0);
-            due("states after " + call, x.count(14), Math.min(states + 1, 5));
-            Check.holds(call + " changes what is told", !state(x).equals(before));
-            due("undo() of " + call, x.undo(), Math.min(states, 4));
-            sameText("undo() of " + call, state(x), before);
+            int states = before.get().count(14);
+            due("states ahead of " + call, states, 5 - undone);
+            due("states after " + call, after.get().count(14), Math.min(states + 1, 5));
+            Check.holds(call + " changes what is told", !state(after).equals(state(before)));
+            due("undo() of " + call, after.get().undo(), Math.min(states, 4));
+            sameText("undo() of " + call, state(again), state(before));
         }
+    }
+
+    private static int undo(TypeWorkshop x, int times) {
+        for (int i = 0; i < times; i++) {
+            x.undo();
+        }
+        return x.count(14);
     }
 
     private static void acts() {
@@ -331,17 +345,11 @@ public final class RefusalTests extends Bench {
     }
 
     private static void noActs() {
-        TypeWorkshop x = busy();
-        x.undo();
-        x.undo();
-        String before = state(x);
-        x.type('a');
-        x.clearText();
-        x.keep();
-        due("states", x.count(14), 3);
-        sameText("type(), clearText() and keep() change no more than the text and the snapshot", state(x), before);
-        x.undo();
-        due("undo() records none", x.count(14), 2);
+        Supplier<TypeWorkshop> before = then(RefusalTests::busy, x -> undo(x, 2));
+        Supplier<TypeWorkshop> after = then(then(then(before, x -> x.type('a')), TypeWorkshop::clearText), TypeWorkshop::keep);
+        due("states", after.get().count(14), 3);
+        sameText("type(), clearText() and keep() change no more than the text and the snapshot", state(after), state(before));
+        due("undo() records none", then(after, TypeWorkshop::undo).get().count(14), 2);
     }
 
     public static void main(String[] args) {

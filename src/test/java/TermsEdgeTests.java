@@ -1,4 +1,5 @@
 import java.util.Arrays;
+import java.util.function.Supplier;
 
 /** For each sentence under "Terms" that names a boundary case a test of its own, which bears the sentence as its name. */
 public final class TermsEdgeTests extends Bench {
@@ -722,7 +723,17 @@ public final class TermsEdgeTests extends Bench {
         due("keep() is no act", x.count(14), 3);
         x.clearText();
         due("clearText() is no act", x.count(14), 3);
-        state(x);
+        x.urgent();
+        for (int what = 0; what <= 15; what++) {
+            x.count(what);
+            x.job(0, what);
+            x.pieces(0, what);
+            x.need(0, what);
+            x.missing(0, what);
+            x.taken(0, 0, what);
+            x.gap(0, 0, what);
+            x.pieceAt(0, 0, what);
+        }
         due("nothing that is told is an act", x.count(14), 3);
     }
 
@@ -743,22 +754,29 @@ public final class TermsEdgeTests extends Bench {
         due("the last one alone", x.count(11), 5);
     }
 
-    private static void stateIsAllButText() {
+    private static TypeWorkshop withAJobAndASnapshot() {
         TypeWorkshop x = withCases(1, 500);
         order(x, "ab c", 0, 20, 0);
         x.keep();
-        String before = state(x);
+        return x;
+    }
+
+    private static int typeAnother(TypeWorkshop x) {
         write(x, "zzz");
-        sameText("the job keeps its text", state(x), before);
-        x.cancel(0);
-        x.restore();
-        due("restore() leaves the text", x.count(15), 3);
-        sameText("restore() brings all back", state(x), before);
-        x.type('z');
-        x.undo();
-        x.undo();
-        due("undo() leaves the text", x.count(15), 4);
-        sameText("undo() brings all back", state(x), before);
+        return x.count(15);
+    }
+
+    private static void stateIsAllButText() {
+        String before = state(TermsEdgeTests::withAJobAndASnapshot);
+        Supplier<TypeWorkshop> made = then(TermsEdgeTests::withAJobAndASnapshot, TermsEdgeTests::typeAnother);
+        sameText("the job keeps its text", state(made), before);
+        made = then(then(made, x -> x.cancel(0)), TypeWorkshop::restore);
+        due("restore() leaves the text", made.get().count(15), 3);
+        sameText("restore() brings all back", state(made), before);
+        made = then(then(then(made, x -> x.type('z')), TypeWorkshop::undo), TypeWorkshop::undo);
+        due("undo() leaves the text", made.get().count(15), 4);
+        sameText("undo() brings all back", state(made), before);
+        TypeWorkshop x = made.get();
         due("the text is still that", x.order(0, 20, 0), 1);
         due("need(1, 25)", x.need(1, 25), 4);
         x.keep();
@@ -767,10 +785,7 @@ public final class TermsEdgeTests extends Bench {
         due("nor is the history: 3 states and the one that restore() records", x.count(14), 3 + 1);
     }
 
-    private static void stateIsAllThatIsCounted() {
-        TypeWorkshop x = new TypeWorkshop();
-        String first = state(x);
-        x.keep();
+    private static int doAll(TypeWorkshop x) {
         x.buy(2000);
         x.addCase();
         x.cast(0, 25, 8);
@@ -782,15 +797,20 @@ public final class TermsEdgeTests extends Bench {
         for (int i = 0; i < 2; i++) {
             due("set", x.set(order(x, "aaaaa", 0, 10, 0)), 0);
         }
-        x.print(2);
+        return x.print(2);
+    }
+
+    private static void stateIsAllThatIsCounted() {
+        String first = state(TypeWorkshop::new);
+        Supplier<TypeWorkshop> made = then(then(TypeWorkshop::new, TypeWorkshop::keep), TermsEdgeTests::doAll);
         for (int what = 0; what <= 13; what++) {
-            Check.holds("count(" + what + ") is above 0", x.count(what) > 0);
+            Check.holds("count(" + what + ") is above 0", made.get().count(what) > 0);
         }
-        String then = state(x);
-        x.restore();
-        sameText("restore() brings all of it back", state(x), first);
-        x.undo();
-        sameText("undo() brings all of it back", state(x), then);
+        String then = state(made);
+        made = then(made, TypeWorkshop::restore);
+        sameText("restore() brings all of it back", state(made), first);
+        made = then(made, TypeWorkshop::undo);
+        sameText("undo() brings all of it back", state(made), then);
     }
 
     private static void constants() {
